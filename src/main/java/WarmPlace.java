@@ -634,6 +634,9 @@ public final class WarmPlace {
         }
 
         void leave(int p) {
+            if (!bed.hasPlace(p)) {
+                return;
+            }
             int last = bed.places - 1;
             for (int k = p; k < last; k++) {
                 who[k] = who[k + 1];
@@ -659,10 +662,14 @@ public final class WarmPlace {
             int first = who[0];
             int end = who[last];
             if (word == 1) {
-                System.arraycopy(who, 0, who, 1, last);
+                for (int p = last; p > 0; p--) {
+                    who[p] = who[p - 1];
+                }
                 who[0] = end;
             } else if (word == 2) {
-                System.arraycopy(who, 1, who, 0, last);
+                for (int p = 0; p < last; p++) {
+                    who[p] = who[p + 1];
+                }
                 who[last] = first;
             } else if (word == 3) {
                 who[0] = end;

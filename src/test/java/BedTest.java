@@ -9,6 +9,7 @@ public final class BedTest {
         faults();
         bedStartsAnew();
         faultLeavesAll();
+        nothingOfTheTextBefore();
         toldOfAll();
         placesAndSleepers();
         law();
@@ -254,6 +255,30 @@ public final class BedTest {
         C.due("fault() stays", x.fault(), 27);
         C.due("bed() of an empty text", x.bed(), 0);
         C.due("fault() is gone", x.fault(), WarmPlace.NONE);
+    }
+
+    private static void nothingOfTheTextBefore() {
+        WarmPlace x = C.bedOf("b6 1;h5 9;s50 1 1 1;r1,2,3;");
+        C.due("bed() of an empty text", x.bed(), 0);
+        C.due("told(1): no ring", x.told(1), 0);
+        Check.tell(x, "b6 1");
+        C.due("bed(): the ';' was in the text before", x.bed(), -11);
+        C.due("fault() at the text's length", x.fault(), 4);
+        Check.tell(x, "b6 0;h5");
+        C.due("bed(): ' 9' was in the text before", x.bed(), -11);
+        C.due("fault() at the text's length", x.fault(), 7);
+        Check.tell(x, "b6 0;");
+        C.due("bed()", x.bed(), 0);
+        C.due("HEAT of the text before", x.place(5, 0), 0);
+        C.due("THE LAW of the text before", x.told(3), 1);
+        C.due("rule(0)", x.rule(0), 0);
+        // 200 letters that end within a clause, in a NUMBER, behind a word
+        for (String end : new String[] {"b2 0", "b2", "b"}) {
+            Check.tell(x, " ".repeat(200 - end.length()) + end);
+            C.due("told(4)", x.told(4), 200);
+            C.due("bed() of 200 letters that end with " + end, x.bed(), -11);
+            C.due("fault() of 200 letters", x.fault(), 200);
+        }
     }
 
     private static void toldOfAll() {
