@@ -83,128 +83,112 @@ public final class BedTest {
         C.due("feed(32)", x.feed(32), 1);
     }
 
-    private static void good(String text, int sleepers) {
-        WarmPlace x = new WarmPlace();
-        Check.tell(x, text);
-        C.due("bed() of '" + text + "'", x.bed(), sleepers);
-        C.due("fault() of '" + text + "'", x.fault(), WarmPlace.NONE);
-    }
-
     private static void goodTexts() {
-        good("", 0);
-        good("   ", 0);
-        good("b2 0;", 0);
-        good("b6 1;", 0);
-        good("  b  6   1  ;  ", 0);
-        good("b002 001;", 0);
-        good("b2 0;s99 9 20 98;", 1);
-        good("b2 0;s1 0 0 0;s2 0 0 1;", 2);
-        good("b2 0;r0;", 0);
-        good("b2 0;r0,1,2,3,0,1,2,3;", 0);
-        good("b2 0; r 0 , 1 ,2 , 3 ; s 5 0 0 1 ; h 1 9 ; h 0 0 ; ", 1);
-        good("b2 0;r003;h001 009;s099 000 020 098;", 1);
-        good("b6 0;s9 1 1 1;s9 1 1 1;s9 1 1 1;s9 1 1 1;s9 1 1 1;s9 1 1 1;", 6);
+        C.good("", 0);
+        C.good("   ", 0);
+        C.good("b2 0;", 0);
+        C.good("b6 1;", 0);
+        C.good("  b  6   1  ;  ", 0);
+        C.good("b002 001;", 0);
+        C.good("b2 0;s99 9 20 98;", 1);
+        C.good("b2 0;s1 0 0 0;s2 0 0 1;", 2);
+        C.good("b2 0;r0;", 0);
+        C.good("b2 0;r0,1,2,3,0,1,2,3;", 0);
+        C.good("b2 0; r 0 , 1 ,2 , 3 ; s 5 0 0 1 ; h 1 9 ; h 0 0 ; ", 1);
+        C.good("b2 0;r003;h001 009;s099 000 020 098;", 1);
+        C.good("b6 0;s9 1 1 1;s9 1 1 1;s9 1 1 1;s9 1 1 1;s9 1 1 1;s9 1 1 1;", 6);
         StringBuilder longest = new StringBuilder("b2 0;");
         while (longest.length() < 200) {
             longest.append(' ');
         }
-        good(longest.toString(), 0);
-    }
-
-    private static void bad(String text, int number, int letter) {
-        WarmPlace x = new WarmPlace();
-        Check.tell(x, text);
-        C.due("bed() of '" + text + "'", x.bed(), -10 - number);
-        C.due("fault() of '" + text + "'", x.fault(), letter);
-        C.due("told(4) behind '" + text + "'", x.told(4), 0);
-        C.due("told(0) behind '" + text + "'", x.told(0), 0);
+        C.good(longest.toString(), 0);
     }
 
     private static void faults() {
         // 1: what cannot stand there
-        bad("x", 1, 0);
-        bad("B2 0;", 1, 0);
-        bad("\t", 1, 0);
-        bad("  ;", 1, 2);
-        bad(";", 1, 0);
-        bad("5", 1, 0);
-        bad("h0 1;b2 0;", 1, 0);
-        bad("s5 1 1 1;", 1, 0);
-        bad("r0;", 1, 0);
-        bad("b", 1, 1);
-        bad("b ", 1, 2);
-        bad("b2", 1, 2);
-        bad("b2 ", 1, 3);
-        bad("b2 0", 1, 4);
-        bad("b2 0 ", 1, 5);
-        bad("b;", 1, 1);
-        bad("b2;", 1, 2);
-        bad("b2,0;", 1, 2);
-        bad("b2 0,", 1, 4);
-        bad("b2 0 0;", 1, 5);
-        bad("b-2 0;", 1, 1);
-        bad("b2 0;x", 1, 5);
-        bad("b2 0; ;", 1, 6);
-        bad("b2 0;h", 1, 6);
-        bad("b2 0;h;", 1, 6);
-        bad("b2 0;h0;", 1, 7);
-        bad("b2 0;h0 1", 1, 9);
-        bad("b2 0;h0 1 1;", 1, 10);
-        bad("b2 0;h0,1;", 1, 7);
-        bad("b2 0;s5 1 1;", 1, 11);
-        bad("b2 0;s5 1 1 1", 1, 13);
-        bad("b2 0;s5 1 1 1 1;", 1, 14);
-        bad("b2 0;r;", 1, 6);
-        bad("b2 0;r,", 1, 6);
-        bad("b2 0;r0,;", 1, 8);
-        bad("b2 0;r0 1;", 1, 8);
-        bad("b2 0;r0,1", 1, 9);
-        bad("b2 0;r0,1,2,3,0,1,2,3,0;", 1, 21);
-        bad("b2 0;r0,1,2,3,0,1,2,3 ,9999;", 1, 22);
-        bad("b2 0;r0,1,2,3,0,1,2,3", 1, 21);
+        C.bad("x", 1, 0);
+        C.bad("B2 0;", 1, 0);
+        C.bad("\t", 1, 0);
+        C.bad("  ;", 1, 2);
+        C.bad(";", 1, 0);
+        C.bad("5", 1, 0);
+        C.bad("h0 1;b2 0;", 1, 0);
+        C.bad("s5 1 1 1;", 1, 0);
+        C.bad("r0;", 1, 0);
+        C.bad("b", 1, 1);
+        C.bad("b ", 1, 2);
+        C.bad("b2", 1, 2);
+        C.bad("b2 ", 1, 3);
+        C.bad("b2 0", 1, 4);
+        C.bad("b2 0 ", 1, 5);
+        C.bad("b;", 1, 1);
+        C.bad("b2;", 1, 2);
+        C.bad("b2,0;", 1, 2);
+        C.bad("b2 0,", 1, 4);
+        C.bad("b2 0 0;", 1, 5);
+        C.bad("b-2 0;", 1, 1);
+        C.bad("b2 0;x", 1, 5);
+        C.bad("b2 0; ;", 1, 6);
+        C.bad("b2 0;h", 1, 6);
+        C.bad("b2 0;h;", 1, 6);
+        C.bad("b2 0;h0;", 1, 7);
+        C.bad("b2 0;h0 1", 1, 9);
+        C.bad("b2 0;h0 1 1;", 1, 10);
+        C.bad("b2 0;h0,1;", 1, 7);
+        C.bad("b2 0;s5 1 1;", 1, 11);
+        C.bad("b2 0;s5 1 1 1", 1, 13);
+        C.bad("b2 0;s5 1 1 1 1;", 1, 14);
+        C.bad("b2 0;r;", 1, 6);
+        C.bad("b2 0;r,", 1, 6);
+        C.bad("b2 0;r0,;", 1, 8);
+        C.bad("b2 0;r0 1;", 1, 8);
+        C.bad("b2 0;r0,1", 1, 9);
+        C.bad("b2 0;r0,1,2,3,0,1,2,3,0;", 1, 21);
+        C.bad("b2 0;r0,1,2,3,0,1,2,3 ,9999;", 1, 22);
+        C.bad("b2 0;r0,1,2,3,0,1,2,3", 1, 21);
         // 2: NUMBERS and PLACES
-        bad("b1 0;", 2, 1);
-        bad("b7 0;", 2, 1);
-        bad("b7x", 2, 1);
-        bad("b20;", 2, 1);
-        bad("b0002 0;", 2, 1);
-        bad("b  0002 0;", 2, 3);
-        bad("b2 2;", 2, 3);
-        bad("b2 0000;", 2, 3);
-        bad("b2 99999999999;", 2, 3);
-        bad("b2 4294967296;", 2, 3);
-        bad("b2 0;h2 0;", 2, 6);
-        bad("b3 0;h2 0;h3 0;", 2, 11);
-        bad("b2 0;h0000 0;", 2, 6);
-        bad("b2 0;h0 10;", 2, 8);
-        bad("b2 0;s0 0 0 0;", 2, 6);
-        bad("b2 0;s100 0 0 0;", 2, 6);
-        bad("b2 0;s9 10 0 0;", 2, 8);
-        bad("b2 0;s9 9 21 0;", 2, 10);
-        bad("b2 0;s9 9 20 99;", 2, 13);
-        bad("b2 0;s9 9 20 0099;", 2, 13);
-        bad("b2 0;r4;", 2, 6);
-        bad("b2 0;r0,1,4;", 2, 10);
-        bad("b2 0;r0000;", 2, 6);
+        C.bad("b1 0;", 2, 1);
+        C.bad("b7 0;", 2, 1);
+        C.bad("b7x", 2, 1);
+        C.bad("b20;", 2, 1);
+        C.bad("b0002 0;", 2, 1);
+        C.bad("b  0002 0;", 2, 3);
+        C.bad("b2 2;", 2, 3);
+        C.bad("b2 0000;", 2, 3);
+        C.bad("b2 99999999999;", 2, 3);
+        C.bad("b2 4294967296;", 2, 3);
+        C.bad("b2 0;h2 0;", 2, 6);
+        C.bad("b3 0;h2 0;h3 0;", 2, 11);
+        C.bad("b2 0;h0000 0;", 2, 6);
+        C.bad("b2 0;h0 10;", 2, 8);
+        C.bad("b2 0;s0 0 0 0;", 2, 6);
+        C.bad("b2 0;s100 0 0 0;", 2, 6);
+        C.bad("b2 0;s9 10 0 0;", 2, 8);
+        C.bad("b2 0;s9 9 21 0;", 2, 10);
+        C.bad("b2 0;s9 9 20 99;", 2, 13);
+        C.bad("b2 0;s9 9 20 0099;", 2, 13);
+        C.bad("b2 0;r4;", 2, 6);
+        C.bad("b2 0;r0,1,4;", 2, 10);
+        C.bad("b2 0;r0000;", 2, 6);
         // 3: again, one more
-        bad("b2 0;b2 0;", 3, 5);
-        bad("b2 0; b", 3, 6);
-        bad("b2 0;r0;r0;", 3, 8);
-        bad("b2 0;r0;s9 1 1 1;r", 3, 17);
-        bad("b2 0;s9 1 1 1;s9 1 1 1;s9 1 1 1;", 3, 23);
-        bad("b2 0;s9 1 1 1;s9 1 1 1;sx", 3, 23);
+        C.bad("b2 0;b2 0;", 3, 5);
+        C.bad("b2 0; b", 3, 6);
+        C.bad("b2 0;r0;r0;", 3, 8);
+        C.bad("b2 0;r0;s9 1 1 1;r", 3, 17);
+        C.bad("b2 0;s9 1 1 1;s9 1 1 1;s9 1 1 1;", 3, 23);
+        C.bad("b2 0;s9 1 1 1;s9 1 1 1;sx", 3, 23);
         // 4: a PLACE again, K of W or more
-        bad("b2 0;h0 1;h0 1;", 4, 11);
-        bad("b2 0;h0 0;h 00 x", 4, 12);
-        bad("b2 0;h1 0;h0 3;h1 10;", 4, 16);
-        bad("b2 0;s9 1 1 9;", 4, 12);
-        bad("b2 0;s9 1 1 10x", 4, 12);
-        bad("b2 0;s1 0 0 98;", 4, 12);
-        bad("b2 0;s98 0 0 98;", 4, 13);
+        C.bad("b2 0;h0 1;h0 1;", 4, 11);
+        C.bad("b2 0;h0 0;h 00 x", 4, 12);
+        C.bad("b2 0;h1 0;h0 3;h1 10;", 4, 16);
+        C.bad("b2 0;s9 1 1 9;", 4, 12);
+        C.bad("b2 0;s9 1 1 10x", 4, 12);
+        C.bad("b2 0;s1 0 0 98;", 4, 12);
+        C.bad("b2 0;s98 0 0 98;", 4, 13);
         // of several letters the first; at one letter the least
-        bad("b2 0;h0 1;h2 1;", 2, 11);
-        bad("b9 9;x", 2, 1);
-        bad("b2 0;h0 99;h0 1;", 2, 8);
+        C.bad("b2 0;h0 1;h2 1;", 2, 11);
+        C.bad("b9 9;x", 2, 1);
+        C.bad("b2 0;h0 99;h0 1;", 2, 8);
     }
 
     private static void bedStartsAnew() {
@@ -244,11 +228,11 @@ public final class BedTest {
         x.getUp(0);
         x.morning(1, 1);
         x.write(3);
-        String before = Check.all(x);
+        String before = Check.facts(x);
         Check.tell(x, "b2 0;s40 3 4 5;h1 9;r3,3,3;b");
         C.due("bed() with a fault", x.bed(), -13);
         C.due("fault()", x.fault(), 27);
-        String after = Check.all(x).replace(" f27 ", " f-1 ");
+        String after = Check.facts(x).replace(", fault 27", ", fault -1");
         C.due("a FAULT leaves all as it was: " + before + " / " + after, before.equals(after) ? 1 : 0, 1);
         C.due("undo(2)", x.undo(2), 0);
         C.due("goBack(1)", x.goBack(1), 1);

@@ -7,7 +7,6 @@ public final class ImagesTest {
         keepAndGoBack();
         twoImages();
         nothingToUndo();
-        refusals();
         withoutPlaces();
         C.end("ImagesTest");
     }
@@ -85,21 +84,6 @@ public final class ImagesTest {
         C.due("undo(1) behind goBack", x.undo(1), WarmPlace.NOT);
         x.hour(1);
         C.due("undo(1)", x.undo(1), 3);
-    }
-
-    private static void refusals() {
-        WarmPlace x = C.bedOf("b4 1;h0 5;s50 1 2 1;s51 3 4 1;s55 2 9 1;r1,2,3;");
-        x.night(3);
-        String before = Check.all(x);
-        C.refused("keep(-1)", before, x.keep(-1), WarmPlace.UNKNOWN, x);
-        C.refused("keep(2)", before, x.keep(2), WarmPlace.UNKNOWN, x);
-        C.refused("goBack(-1)", before, x.goBack(-1), WarmPlace.UNKNOWN, x);
-        C.refused("goBack(2)", before, x.goBack(2), WarmPlace.UNKNOWN, x);
-        C.refused("goBack(0)", before, x.goBack(0), WarmPlace.NOT, x);
-        C.refused("goBack(1)", before, x.goBack(1), WarmPlace.NOT, x);
-        x.keep(0);
-        before = Check.all(x);
-        C.refused("goBack(1)", before, x.goBack(1), WarmPlace.NOT, x);
     }
 
     private static void withoutPlaces() {

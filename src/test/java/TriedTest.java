@@ -11,7 +11,6 @@ public final class TriedTest {
         steady();
         twoBeds();
         nobodyUp();
-        nothingChanges();
         C.end("TriedTest");
     }
 
@@ -250,26 +249,5 @@ public final class TriedTest {
         C.due("nobodyUp(51, 0)", x.nobodyUp(51, 0), WarmPlace.OUTSIDE);
         C.due("nobodyUp(1, -1)", x.nobodyUp(1, -1), WarmPlace.OUTSIDE);
         C.due("nobodyUp(1, 1001)", x.nobodyUp(1, 1001), WarmPlace.OUTSIDE);
-    }
-
-    private static void nothingChanges() {
-        WarmPlace x = C.bedOf("b5 1;h0 5;h3 2;s50 1 2 1;s51 3 4 1;s55 2 9 1;s60 2 3 4;r1,2,3;");
-        x.night(4);
-        x.getUp(2);
-        x.seed(9);
-        String before = Check.all(x);
-        x.firstAwake(0);
-        x.turnsFor(5, -1);
-        x.rhyme(30, -1);
-        x.laid(9, -1);
-        x.change(-1);
-        x.steady(-1);
-        x.steady(0);
-        x.twoBeds(0);
-        x.nobodyUp(9, 9);
-        x.counted(5, -1);
-        x.sure(5);
-        x.judge(1);
-        C.due("nothing changes by what is tried", before.equals(Check.all(x)) ? 1 : 0, 1);
     }
 }
