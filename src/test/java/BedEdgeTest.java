@@ -210,6 +210,7 @@ public final class BedEdgeTest {
         C.good("b6 0;h0 1;h1 1;h2 1;h3 1;h4 1;h5 1;", 0);
         C.bad("b2 0;h0 0;h0 0;", 4, 11);
         C.bad("b2 0;h0 0;h1 0;h 001 0;", 4, 17);
+        C.bad("b2 0;h0 0;h1 0;h0 0;", 4, 16);
         C.bad("b6 0;h5 0;h5", 4, 11);
     }
 

@@ -258,6 +258,7 @@ public final class BedTest {
         C.due("rule(0)", x.rule(0), 0);
         // 200 letters that end within a clause, in a NUMBER, behind a word
         for (String end : new String[] {"b2 0", "b2", "b"}) {
+            x = C.bedOf("b6 1;h5 9;s50 1 1 1;r1,2,3;");
             Check.tell(x, " ".repeat(200 - end.length()) + end);
             C.due("told(4)", x.told(4), 200);
             C.due("bed() of 200 letters that end with " + end, x.bed(), -11);

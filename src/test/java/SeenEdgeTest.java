@@ -216,6 +216,14 @@ public final class SeenEdgeTest {
         }
     }
 
+    static void p25_withoutAnyRow0BehindASureOne() {
+        WarmPlace x = still(3, 0, 3);
+        x.morning(0, 0);
+        C.due("sure(1)", x.sure(1), 1);
+        x.morning(0, 1);
+        C.due("sure(1)", x.sure(1), 0);
+    }
+
     static void p25_nothingToldNothingSure() {
         for (int m = 1; m <= 5; m++) {
             C.due("sure(" + m + ")", still(2, 0, 1).sure(m), 0);
@@ -337,6 +345,16 @@ public final class SeenEdgeTest {
     static void p27_theFirstOfManyWrongHours() {
         judged("b2 0;s20 0 5 0;", 20, 3, 100);
         judged("b2 0;s99 0 20 98;", 20, 0, 2);
+    }
+
+    static void p27_eachOfTheFourWords() {
+        // alone in the first of three PLACES, the last one is warm: 1 and 0 leave it cold, 2 and 3 bring it there
+        int[] due = {145, 145, 154, 154};
+        for (int word = 0; word < 4; word++) {
+            WarmPlace x = C.bedOf("b3 0;h2 9;s50 0 4 1;");
+            x.write(word);
+            C.due("judge(1) of " + word, x.judge(1), due[word]);
+        }
     }
 
     static void p27_fromNowNotByTheHour() {

@@ -77,6 +77,18 @@ public final class TriedEdgeTest {
         C.due("firstAwake(1), the least lies last", x.firstAwake(1), 0);
     }
 
+    static void p15_theLawGoesOnBeyondItsLastWord() {
+        // who turns once is cold in the next hour, too: in HOUR 2 of three
+        WarmPlace x = C.bedOf("b2 0;h0 9;s9 0 9 0;r0,0,1;");
+        C.due("firstAwake(0) in HOUR 0", x.firstAwake(0), 3);
+        x.hour(0);
+        C.due("firstAwake(0) in HOUR 1", x.firstAwake(0), 2);
+        x.hour(0);
+        C.due("firstAwake(0) in HOUR 2", x.firstAwake(0), 1);
+        x.hour(0);
+        C.due("firstAwake(0) in HOUR 3", x.firstAwake(0), 3);
+    }
+
     // ---- promise 16: turnsFor
 
     static void p16_hoursFrom1To5() {
