@@ -41,7 +41,7 @@ public final class CiRunTest {
             String code = "public final class " + name + " { public static void main(String[] a) " + bodies[k] + " }\n";
             write((k < 2 ? "main/src/test/java/" : "shared/tests/") + name + ".java", code);
         }
-        Process p = new ProcessBuilder(main.resolve(".ci/run").toString()).directory(root.toFile()).redirectErrorStream(true).start();
+        Process p = new ProcessBuilder("sh", main.resolve(".ci/run").toString()).directory(root.toFile()).redirectErrorStream(true).start();
         said = new String(p.getInputStream().readAllBytes());
         C.due(what + ": .ci/run ends", p.waitFor(), exit);
         for (int k = 0; k < bodies.length && !bodies[0].equals(NO_JAVA); k++) {
